@@ -163,8 +163,20 @@ public final class PromisesTest {
         pays("if hour < hours then 1 else if week < which then 40 + which else 3", 41);
         pays("1; pays = 2", 2);
         pays("1 - (1 - (1 - (1 - (1 - (1 - 1 * 1)))))", 1);
-        pays("1 + 2 * (3 + 4 * (5 - 2 * (6 - 3 * (7 - 6 * (8 - 6 * (9 - 7)))) / 40))", 1 + 2 * (3 + 4 * (5 - 2 * (6 - 3 * (7 - 6 * (8 - 6 * (9 - 7)))) / 40)));
-        pays("if 1 + 2 * (3 + 4 * (5 + 6 * (7 + 8 * (9 + 10 * (11 + 12))))) < 1 + 2 * (3 + 4 * (5 + 6 * (7 + 8 * (9 + 10 * (11 + 13 * 1))))) then 8 else 9", 8);
+        pays("if " + deep(0) + " < " + deep(1) + " then 8 else 9", 8);
+        pays("if " + deep(1) + " < " + deep(0) + " then 8 else 9", 9);
+        pays(deep(0) + " / 9999", 65);
+        pays(deep(1) + " / 9999 - 90", 40);
+        String not = "if 4 < 2 then 8 else ";
+        pays(not + not + not + not + deep(0) + " / 9999", 65);
+        pays(not + not + not + "if 3 < 4 then " + deep(0) + " / 9999 else 1", 65);
+        LentSundays x = Check.of("sunday q 24 50; sells = 7" + "+1-1".repeat(97) + "+2;");
+        due("a law that takes nearly all tokens", x.sunday(0, 6), 9);
+    }
+
+    /** As many open values as there can be; 645119 of 0, 1290239 of 1. */
+    private static String deep(int last) {
+        return "1 + 2 * (3 + 4 * (5 + 6 * (7 + 8 * (9 + 10 * (11 + 12 * (13 + 14 * " + last + "))))))";
     }
 
     private static void at() {
@@ -249,6 +261,12 @@ public final class PromisesTest {
         y.putOut(0);
         due("promise 12: aired without money", y.air(0), true);
         due("promise 12: no money", y.count(3), 0);
+        LentSundays one = Check.of("sunday s 10 5; guest g 0 2 1;");
+        one.letIn(0, 0);
+        one.weeks(1);
+        one.putOut(0);
+        due("promise 12: aired for the last money", one.air(0), true);
+        due("promise 12: no money then", one.count(3), 0);
         y.letIn(0, 1);
         y.weeks(1);
         y.putOut(0);
