@@ -4,12 +4,18 @@ import java.nio.charset.StandardCharsets;
 final class Check {
     private int wrong = 0;
     private int asked = 0;
+    private String sentence = "";
+
+    /** From now on, what is wrong is told with the name of this sentence of the document. */
+    void sentence(String name) {
+        sentence = name + ": ";
+    }
 
     void due(String what, long got, long want) {
         asked++;
         if (got != want) {
             wrong++;
-            System.out.println(what + " answered " + got + ", due is " + want);
+            System.out.println(sentence + what + " answered " + got + ", due is " + want);
         }
     }
 
