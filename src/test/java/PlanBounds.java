@@ -1,4 +1,5 @@
 import java.util.List;
+import java.util.function.IntSupplier;
 
 /** Boundary cases of "Terms", part III, and of promises 15 to 36. */
 final class PlanBounds extends Bounds {
@@ -73,24 +74,19 @@ final class PlanBounds extends Bounds {
         due("what is held: who is in", x.count(4), in);
     }
 
-    private static List<Integer> plans(LentSundays x, boolean fewestFirst) {
-        int fewest = fewestFirst ? x.fewest(1) : 0;
-        int colours = fewestFirst ? x.colours() : 0;
-        int alone = x.alone(1, 0);
-        int much = x.letting(-1);
-        int first = x.letting(0);
-        int last = x.letting(1);
-        return List.of(fewestFirst ? fewest : x.fewest(1), fewestFirst ? colours : x.colours(), alone, much, first, last,
-            x.tangle(1), x.used(0, 9), x.first(0), x.earned(3));
-    }
-
+    /** Guest d fits no Sunday, so that not all can be let. */
     void termsIII_noAnswerIsAnotherForWhatWasAskedAhead() {
-        LentSundays x = Check.of(HOUSE);
+        LentSundays x = Check.of(HOUSE + "guest d 23 5 4;");
         x.letIn(2, 0);
-        List<Integer> want = List.of(3, 2, 8, 17, 5, 2, 6, 9, 50, 27);
-        for (int i = 0; i < 4; i++) {
-            List<Integer> got = plans(x, i % 2 == 0);
-            due("plans " + got, got.equals(want), true);
+        IntSupplier[] asked = {() -> x.alone(1, 0), () -> x.letting(-1), () -> x.letting(0), () -> x.letting(1),
+            () -> x.fewest(0), () -> x.colours(), () -> x.tangle(1), () -> x.used(0, 9), () -> x.first(0), () -> x.year(2, 40, 20),
+            () -> x.earned(3)};
+        int[] want = {8, 17, 5, 2, -2, 2, 6, 9, 50, 20, 27};
+        for (int i = 0; i < asked.length; i++) {
+            for (int k = 0; k < asked.length; k++) {
+                due(i + " ahead of " + k, asked[i].getAsInt(), want[i]);
+                due(k + " behind " + i, asked[k].getAsInt(), want[k]);
+            }
         }
     }
 
@@ -470,6 +466,7 @@ final class PlanBounds extends Bounds {
 
     void promise24_fromNoneToAllHours() {
         due("no Sundays", new LentSundays().idle(), 0);
+        due("four Sundays", Check.of(FOUR_SUNDAYS).idle(), 36);
         LentSundays x = Check.of("sunday s 24 9;sunday t 1 9;guest a 0 12 1;guest b 12 12 1;guest c 0 1 1;");
         due("all", x.idle(), 25);
         x.letIn(0, 0);

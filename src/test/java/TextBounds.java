@@ -619,6 +619,15 @@ final class TextBounds extends Bounds {
             due("Sundays", x.count(0), 1);
             due("guests", x.count(1), 2);
             due("pairs", x.count(14), 0);
+            due("who fits", x.count(16), 3);
+            due("hours", x.count(17), 24);
+            due("fees", x.count(18), 44);
+            due("idle", x.idle(), 24);
+            due("letting", x.letting(-1), 44);
+            due("fewest", x.fewest(1), 1);
+            due("colours", x.colours(), 1);
+            due("tangle", x.tangle(1), 1);
+            due("whose", x.whose(0, 1), 3);
             x.letIn(0, 0);
             due("PAYS", x.guest(0, 6), 43);
             due("RESTS", x.guest(0, 7), 5);
