@@ -107,6 +107,39 @@ final class PlanBounds extends Bounds {
         due("WEARY", y.weary(0), 52);
     }
 
+    void termsIII_theLastSundayAndTheLastGuest() {
+        LentSundays x = Check.of(FOUR_SUNDAYS.replace("k 9", "k 24") + SEVEN.replace("6 1 1", "23 1 8") + "death 5;pays = fee;rests = 2;wears = 4;");
+        due("FITTING", x.fitting(6), 8);
+        due("ROOM", x.room(6), 8);
+        due("ALONE", x.alone(3, 0), 14);
+        due("ALONE", x.alone(3, 1), 127);
+        due("LETTING", x.letting(-1), 14);
+        due("LETTING", x.letting(3), 64);
+        due("LETTING", x.letting(0), 63);
+        due("FEWEST", x.fewest(1), 8);
+        due("let in", x.letIn(6, 3), true);
+        due("at", x.at(3, 23), 6);
+        due("ROW", x.row(3, 0), 6);
+        due("PAYER", x.payer(0), 6);
+        due("PAYER", x.payer(1), 8);
+        due("USED", x.used(3, 9), 3);
+        due("FIRST", x.first(1), 6);
+        due("WEARY", x.weary(6), 3);
+        due("GAP", x.gap(3, 0), 23);
+        due("PRICE", x.price(3, 40), 4);
+        due("BEST", x.best(3, 40, 1), 4);
+        due("IN n WEEKS", x.then(6, 2, 1), 4);
+        due("IN n WEEKS", x.wornIn(3, 2), 8);
+        due("YEAR", x.year(6, 2, 20), 20);
+        due("RIVALS", x.rivals(6), 0);
+        due("let in", x.letIn(5, 0), true);
+        due("CHANGE", x.change(6, 5), 0);
+        due("CHANGE", x.change(5, 6), 0);
+        due("put out", x.putOut(6), true);
+        due("sold", x.sell(3), 4);
+        due("FITTING", x.fitting(6), 0);
+    }
+
     // ---- ALONE, LETTING, FEWEST, COLOURS, TANGLE
 
     void termsIII_aloneOfNobodyIs0() {
@@ -243,6 +276,16 @@ final class PlanBounds extends Bounds {
         }
         text += "guest e 0 1 1;";
         due("five at one hour", Check.of(text).fewest(0), -2);
+        due("seven at one hour", Check.of(FOUR_SUNDAYS + TANGLED).fewest(0), -2);
+    }
+
+    void termsIII_fewestOfAllSeven() {
+        LentSundays x = Check.of(FOUR_SUNDAYS + SEVEN);
+        due("how many", x.fewest(0), 1);
+        due("which", x.fewest(1), 1);
+        LentSundays y = Check.of(FOUR_SUNDAYS + SEVEN + "foes f g;foes e f;foes e g;foes d e;foes d f;foes d g;");
+        due("how many", y.fewest(0), 4);
+        due("which", y.fewest(1), 15);
     }
 
     void termsIII_fewestOfAsManyTheLeastBits() {

@@ -172,6 +172,15 @@ final class ToldBounds extends Bounds {
         due("two of four from 0 on", v.look(0), 0);
         LentSundays u = Check.of("guest a 23 1 1;guest b 0 1 1;guest c 23 9 1;guest d 1 1 1;guest e 2 1 1;");
         due("two of five at the last hour alone", u.look(0), 23);
+        LentSundays t = Check.of(SEVEN.replaceAll("[0-6] 1 1", "9 2 1").replace("guest d 9", "guest d 5"));
+        due("one of seven at 5", t.look(0), 5);
+    }
+
+    void termsIV_lookAtNoHourBeyond23() {
+        LentSundays x = Check.of("guest a 23 2 1;guest b 23 1 1;");
+        due("a and b are apart at 24 alone", x.look(0), 0);
+        LentSundays y = Check.of("guest a 20 12 1;guest b 20 4 1;guest c 20 4 1;guest d 20 12 1;");
+        due("two of four at 24 alone", y.look(0), 0);
     }
 
     void termsIV_lookOfAlikeOnesTheFirst() {
