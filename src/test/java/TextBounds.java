@@ -540,6 +540,12 @@ final class TextBounds extends Bounds {
         good("guest a 0 1 1;guest b 1 1 1;foes a b;");
     }
 
+    void termsI_aNameToldMoreThanOnceIsThatOfTheFirst() {
+        faultAt("guest a 0 1 1;guest !a 1 1 1;guest b 2 1 1;foes a b;foes b a;", 3);
+        faultAt("guest a 0 1 1;sunday !a 1 1;foes a x;", 3);
+        faultAt("foes !a b;guest a 0 1 1;guest a 1 1 1;", 4);
+    }
+
     void termsI_aWrongNumberIsToldAtTheInt() {
         faultAt("sunday s !0000 100;", 5);
         faultAt("sunday s 1   !0100;", 5);
